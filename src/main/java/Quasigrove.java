@@ -190,12 +190,12 @@ public final class Quasigrove {
 
     public int forced(int grid) throws IndexOutOfBoundsException {
         Grid asked = gridAt(grid);
-        return Move.told(Forcing.firstForced(asked), asked.order);
+        return Move.told(Filling.firstForced(asked), asked.order);
     }
 
     public int logic(int grid) throws IndexOutOfBoundsException {
         work.copy(gridAt(grid));
-        return Forcing.fillForced(work);
+        return Filling.fillForced(work);
     }
 
     public int critical(int grid) throws IndexOutOfBoundsException, IllegalStateException {
@@ -626,7 +626,7 @@ public final class Quasigrove {
                 int place = start + item;
                 int behind = rest % (item + 1);
                 rest /= item + 1;
-                for (int i = 0; i < behind && place > start && place < images.length; i++) {
+                for (int i = 0; i < behind && place > 0 && place < images.length; i++) {
                     images[place] = images[place - 1];
                     place--;
                 }
@@ -689,7 +689,7 @@ public final class Quasigrove {
         }
     }
 
-    /** Fills a grid cell by cell, always the one with the fewest options. */
+    /** Fills a grid cell by cell, the one with the fewest options first, or as far as it is forced. */
     private static final class Filling {
         static int squares(Grid work, int most) {
             return squaresFrom(work, most, 0);
@@ -752,6 +752,56 @@ public final class Quasigrove {
                 }
             }
             return tightest;
+        }
+
+        static int firstForced(Grid grid) {
+            for (int row = 0; row < grid.order; row++) {
+                for (int column = 0; column < grid.order; column++) {
+                    for (int sign = 0; sign < grid.order; sign++) {
+                        if (isForced(grid, row, column, sign)) {
+                            return Move.packed(row, column, sign);
+                        }
+                    }
+                }
+            }
+            return NONE;
+        }
+
+        static int fillForced(Grid work) {
+            int filled = 0;
+            int move = firstForced(work);
+            while (move != NONE && filled < MOST_CELLS) {
+                work.set(Move.row(move), Move.column(move), Move.sign(move));
+                filled++;
+                move = firstForced(work);
+            }
+            return filled;
+        }
+
+        private static boolean isForced(Grid grid, int row, int column, int sign) {
+            int options = grid.optionsAt(row, column);
+            return isIn(options, sign)
+                    && (options == 1 << sign
+                    || isAloneInRow(grid, row, column, sign)
+                    || isAloneInColumn(grid, row, column, sign));
+        }
+
+        private static boolean isAloneInRow(Grid grid, int row, int column, int sign) {
+            for (int other = 0; other < grid.order; other++) {
+                if (other != column && isIn(grid.optionsAt(row, other), sign)) {
+                    return false;
+                }
+            }
+            return true;
+        }
+
+        private static boolean isAloneInColumn(Grid grid, int row, int column, int sign) {
+            for (int other = 0; other < grid.order; other++) {
+                if (other != row && isIn(grid.optionsAt(other, column), sign)) {
+                    return false;
+                }
+            }
+            return true;
         }
     }
 
@@ -826,59 +876,6 @@ public final class Quasigrove {
 
         private boolean fits(int row, int pairs, int taken) {
             return row >= 0 && row < MOST_ORDER && (pairs & ~(allowed[row] & ~taken)) == 0;
-        }
-    }
-
-    /** Finds the cells that have no choice. */
-    private static final class Forcing {
-        static int firstForced(Grid grid) {
-            for (int row = 0; row < grid.order; row++) {
-                for (int column = 0; column < grid.order; column++) {
-                    for (int sign = 0; sign < grid.order; sign++) {
-                        if (isForced(grid, row, column, sign)) {
-                            return Move.packed(row, column, sign);
-                        }
-                    }
-                }
-            }
-            return NONE;
-        }
-
-        static int fillForced(Grid work) {
-            int filled = 0;
-            int move = firstForced(work);
-            while (move != NONE && filled < MOST_CELLS) {
-                work.set(Move.row(move), Move.column(move), Move.sign(move));
-                filled++;
-                move = firstForced(work);
-            }
-            return filled;
-        }
-
-        private static boolean isForced(Grid grid, int row, int column, int sign) {
-            int options = grid.optionsAt(row, column);
-            return isIn(options, sign)
-                    && (options == 1 << sign
-                    || isAloneInRow(grid, row, column, sign)
-                    || isAloneInColumn(grid, row, column, sign));
-        }
-
-        private static boolean isAloneInRow(Grid grid, int row, int column, int sign) {
-            for (int other = 0; other < grid.order; other++) {
-                if (other != column && isIn(grid.optionsAt(row, other), sign)) {
-                    return false;
-                }
-            }
-            return true;
-        }
-
-        private static boolean isAloneInColumn(Grid grid, int row, int column, int sign) {
-            for (int other = 0; other < grid.order; other++) {
-                if (other != row && isIn(grid.optionsAt(other, column), sign)) {
-                    return false;
-                }
-            }
-            return true;
         }
     }
 
@@ -1408,7 +1405,7 @@ public final class Quasigrove {
         }
 
         private static void layFrom(Mating self, int order, int column, int taken) {
-            if (column >= order || column >= MOST_ORDER) {
+            if (column < 0 || column >= order || column >= MOST_ORDER) {
                 self.keepLower(order);
                 return;
             }
