@@ -378,6 +378,18 @@ public final class PromiseTest {
         Check.state("18: order 5", () -> g.critical(4));
         Check.state("18: no square", () -> g.critical(5));
         Check.range("18: grid 6", () -> g.critical(6));
+        // isotopes need as many cells; those of the remainders by 4 have no transversals, the others have 8
+        for (int n = 2; n <= 4; n++) {
+            for (int[][] square : PlainGrove.squares(n)) {
+                fresh();
+                g.grid(n);
+                for (int cell = 0; cell < n * n; cell++) {
+                    g.put(0, cell / n, cell % n, square[cell / n][cell % n]);
+                }
+                int want = n < 4 ? n - 1 : g.transversals(0) == 0 ? 4 : 5;
+                Check.due("18: " + shown(0), want, () -> g.critical(0));
+            }
+        }
     }
 
     // ---- laws
