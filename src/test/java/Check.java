@@ -42,6 +42,10 @@ final class Check {
         }
     }
 
+    static void failed(String what) {
+        WRONG.add(what);
+    }
+
     static void end() {
         for (int i = 0; i < WRONG.size() && i < 50; i++) {
             System.out.println(WRONG.get(i));

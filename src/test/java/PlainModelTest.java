@@ -3,10 +3,14 @@ import java.lang.reflect.Method;
 import java.util.Arrays;
 import java.util.Random;
 
-/** Long runs of calls, answered by the class and by PlainGrove; all that can be asked must be alike after each. */
+/**
+ * Long runs of calls, answered by the class and by PlainGrove. Between them cells and
+ * what they can take are asked, and in the end as much as an object's 512 calls allow.
+ */
 public final class PlainModelTest {
-    private static final int RUNS = 120;
-    private static final int CALLS = 512;
+    private static final int RUNS = 400;
+    private static final int MOST_CALLS = 512;
+    private static final int CALLS_BEFORE_THE_END = 350;
     private static final String SQUARE_CALLS = "stir|critical|breaks|unit|nucleus|closed|count|isotopies"
             + "|transversals|mates|mate|areMates|parity";
 
@@ -36,13 +40,17 @@ public final class PlainModelTest {
     }
 
     private int run(int run) {
-        while (calls < CALLS) {
+        while (calls < CALLS_BEFORE_THE_END) {
             Method method = pick();
             if (method.getName().equals("breaks") && random.nextInt(5) > 0) {
                 typeIdentity(run);
             }
             step(run, method, arguments(method));
+            if (random.nextInt(3) == 0) {
+                compareSomeCell(run);
+            }
         }
+        compareStates(run);
         return thrown;
     }
 
@@ -55,7 +63,6 @@ public final class PlainModelTest {
             fail(run, method.getName() + " answered " + got + ", due is " + want);
         }
         thrown += want.startsWith("throws.") ? 1 : 0;
-        compareStates(run);
     }
 
     /** Most identities fail at once, so some are said again in other letters, which many squares keep. */
@@ -96,30 +103,35 @@ public final class PlainModelTest {
         }
     }
 
-    private void compareStates(int run) {
-        for (int g = 0; g <= plain.grids(); g++) {
-            int grid = g;
-            if (g == plain.grids()) {
-                if (!Check.told(() -> grove.of(grid, 0)).equals("throws.IndexOutOfBoundsException")) {
-                    fail(run, "there is a grid too many");
-                }
-                continue;
-            }
-            for (int what = 0; what < 3; what++) {
-                if (grove.of(grid, what) != plain.of(grid, what)) {
-                    fail(run, "of " + grid + " " + what + " is " + grove.of(grid, what));
-                }
-            }
+    private void compareSomeCell(int run) {
+        if (plain.grids() > 0) {
+            int grid = random.nextInt(plain.grids());
             int n = plain.of(grid, 0);
+            compare(run, random.nextBoolean() ? "cell" : "can", grid, random.nextInt(n), random.nextInt(n));
+        }
+    }
+
+    /** Begins with some grid, as there may be more cells than calls are left. */
+    private void compareStates(int run) {
+        compare(run, "fault");
+        compare(run, "of", plain.grids(), 0);
+        int first = random.nextInt(12);
+        for (int i = 0; i < plain.grids(); i++) {
+            int grid = (first + i) % plain.grids();
+            int n = plain.of(grid, 0);
+            for (int what = 0; what < 3; what++) {
+                compare(run, "of", grid, what);
+            }
             for (int cell = 0; cell < n * n; cell++) {
-                if (grove.cell(grid, cell / n, cell % n) != plain.cell(grid, cell / n, cell % n)
-                        || grove.can(grid, cell / n, cell % n) != plain.can(grid, cell / n, cell % n)) {
-                    fail(run, "the cell " + cell + " of " + grid + " is unlike");
-                }
+                compare(run, "cell", grid, cell / n, cell % n);
+                compare(run, "can", grid, cell / n, cell % n);
             }
         }
-        if (grove.fault() != plain.fault()) {
-            fail(run, "the fault is " + grove.fault());
+    }
+
+    private void compare(int run, String name, Object... args) {
+        if (calls < MOST_CALLS) {
+            step(run, named(name), args);
         }
     }
 

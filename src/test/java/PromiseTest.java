@@ -36,40 +36,21 @@ public final class PromiseTest {
         g = new Quasigrove();
     }
 
-    /** Makes a grid of its rows, a dot for an empty cell. */
     private static int made(String... rows) {
-        int grid = g.grid(rows.length);
-        for (int r = 0; r < rows.length; r++) {
-            for (int c = 0; c < rows.length; c++) {
-                char sign = rows[r].charAt(c);
-                g.put(grid, r, c, sign == '.' ? Quasigrove.NONE : sign - '0');
-            }
-        }
-        return grid;
+        return Groves.made(g, rows);
     }
 
     private static String shown(int grid) {
-        int n = g.of(grid, 0);
-        StringBuilder text = new StringBuilder();
-        for (int cell = 0; cell < n * n; cell++) {
-            int sign = g.cell(grid, cell / n, cell % n);
-            text.append(cell > 0 && cell % n == 0 ? "/" : "").append(sign < 0 ? "." : String.valueOf(sign));
-        }
-        return text.toString();
+        return Groves.shown(g, grid);
     }
 
     private static void type(String text) {
-        g.wipe();
-        for (int i = 0; i < text.length(); i++) {
-            g.type(text.charAt(i), 1);
-        }
+        Groves.type(g, text);
     }
 
     private static void full() {
         fresh();
-        for (int i = 0; i < 12; i++) {
-            g.grid(2);
-        }
+        Groves.makeUpTo(g, Groves.MOST_GRIDS);
     }
 
     // ---- GRIDS
@@ -430,6 +411,7 @@ public final class PromiseTest {
         String[] identities = {"x=x", "y=z", "(xy)=z", "x=(yz)", "((xy)z)=(x(yz))", "(x(y(z(x(yz)))))=((xx)(yy))",
             "((((((((((((xx)x)x)x)x)x)x)x)x)x)x)x)=y"};
         for (String identity : identities) {
+            fresh();
             type(identity);
             Check.due("21: " + identity, -1, () -> g.fault());
             for (int i = 0; i < identity.length(); i++) {
@@ -442,6 +424,7 @@ public final class PromiseTest {
             "(x=", "(xyz", "(xy(", "(xy=", "(xy))", "(xy)x", "(xy)(", "((xy))", "((xy)=", "((xy)zx", "x=(y)", "x=(yz))",
             "x=(yzx", "(xy)==", "(xy)=z=", "(xy)=(xy)(", "(x(=", "(()", "x=((xy)z)z"};
         for (String text : wrong) {
+            fresh();
             type(text);
             Check.due("21: " + text, text.length() - 1, () -> g.fault());
             type(text + "(x=");

@@ -1,11 +1,12 @@
 import java.lang.management.ManagementFactory;
 
 /**
- * The dearest calls, 512 times each on one object, take hardly any room and end soon.
+ * The dearest calls, 400 times each on one object, which was used for some calls
+ * before, take hardly any room and end soon; an object is used for 512 calls at most.
  * 600,000 objects and 7.3 million fields and elements are the limit of a whole run.
  */
 public final class RoomTest {
-    private static final int CALLS = 512;
+    private static final int CALLS = 400;
     private static final long MOST_BYTES = 3_000_000;
 
     private interface Asked {
@@ -75,10 +76,7 @@ public final class RoomTest {
         }
         grove.put(6, 4, 3, 3);
         grove.put(6, 4, 4, 4);
-        String text = "((((xy)z)x)(yz))=((((xy)z)x)(yz))";
-        for (int i = 0; i < text.length(); i++) {
-            grove.type(text.charAt(i), 1);
-        }
+        Groves.type(grove, "((((xy)z)x)(yz))=((((xy)z)x)(yz))");
         return grove;
     }
 }
