@@ -8,9 +8,25 @@ final class Check {
     }
 
     private static final List<String> WRONG = new ArrayList<>();
+    private static final long MOST_SECONDS = 300;
     private static int calls = 0;
 
     private Check() {
+    }
+
+    /** Ends the whole test as a failed one, if a call does not end. */
+    static void begin() {
+        Thread watch = new Thread(() -> {
+            try {
+                Thread.sleep(1000 * MOST_SECONDS);
+            } catch (InterruptedException e) {
+                return;
+            }
+            System.out.println("no end after " + MOST_SECONDS + " seconds, behind " + calls + " answers");
+            Runtime.getRuntime().halt(1);
+        });
+        watch.setDaemon(true);
+        watch.start();
     }
 
     static void due(String what, Object want, Call call) {

@@ -20,6 +20,7 @@ public final class FaceTest {
     };
 
     public static void main(String[] args) {
+        Check.begin();
         Class<?> type = Quasigrove.class;
         Check.due("the class", "public final", () -> Modifier.toString(type.getModifiers()));
         Check.due("NONE", -1, () -> Quasigrove.NONE);

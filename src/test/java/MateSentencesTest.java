@@ -141,6 +141,34 @@ public final class MateSentencesTest extends Scene {
         due(0, () -> g.distance(2, 3));
     }
 
+    @Sentence("30: Makes the LOWEST MATE: one that can be changed as each other GRID, whatever was made before")
+    void matesThatChange() {
+        String[] squares = {"01234/12340/23401/34012/40123", PAIRS, "012/120/201"};
+        for (String first : squares) {
+            for (String second : squares) {
+                fresh();
+                madeOf(first);
+                madeOf(second);
+                int n = second.indexOf('/');
+                due(2, () -> g.mate(0));
+                due(3, () -> g.mate(1));
+                for (int row = 1; row < n; row++) {
+                    int at = row;
+                    due("a row full before and after", true, () -> g.turn(3, 0, at, n - 1) >= 2);
+                    due("a column full too", 0, () -> g.can(3, at, at));
+                }
+                for (int cell = 0; cell < n * n; cell++) {
+                    int row = cell / n;
+                    int column = cell % n;
+                    int sign = g.put(3, row, column, -1);
+                    due("what went can come again", 1 << sign, () -> g.can(3, row, column));
+                    due(-1, () -> g.put(3, row, column, sign));
+                }
+                due("it can be stirred", 12345, () -> g.stir(3, 0, 1));
+            }
+        }
+    }
+
     // ---- 31
 
     @Sentence("31: false if their ORDERS are unlike")

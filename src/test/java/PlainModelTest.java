@@ -28,6 +28,7 @@ public final class PlainModelTest {
     }
 
     public static void main(String[] args) {
+        Check.begin();
         Method[] face = Arrays.stream(Quasigrove.class.getDeclaredMethods())
                 .filter(m -> java.lang.reflect.Modifier.isPublic(m.getModifiers()))
                 .sorted(java.util.Comparator.comparing(Method::getName))
@@ -77,13 +78,10 @@ public final class PlainModelTest {
         }
     }
 
+    /** The bits beyond the text are random, as they do not matter. */
     private long packed(String text) {
-        long characters = random.nextLong();
-        for (int i = 0; i < text.length(); i++) {
-            characters &= ~(255L << 8 * i);
-            characters |= (long) text.charAt(i) << 8 * i;
-        }
-        return characters;
+        long beyond = text.length() < 8 ? random.nextLong() << 8 * text.length() : 0;
+        return beyond | Groves.packed(text);
     }
 
     private void fail(int run, String what) {

@@ -3,6 +3,7 @@ public final class PromiseTest {
     private static Quasigrove g;
 
     public static void main(String[] args) {
+        Check.begin();
         promise1To3();
         put();
         isotope();

@@ -14,6 +14,7 @@ public final class RoomTest {
     }
 
     public static void main(String[] args) {
+        Check.begin();
         run("new objects", (g, i) -> new Quasigrove().wipe());
         run("fills", (g, i) -> g.fills(0, 1000));
         run("fills, none", (g, i) -> g.fills(6, 1000));

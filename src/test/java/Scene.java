@@ -15,6 +15,7 @@ abstract class Scene {
 
     /** Runs each method that bears a sentence on a scene of its own. */
     static void runAll(Class<? extends Scene> tests) {
+        Check.begin();
         int ran = 0;
         for (Method method : tests.getDeclaredMethods()) {
             Sentence sentence = method.getAnnotation(Sentence.class);

@@ -333,6 +333,38 @@ public final class TermsTest extends Scene {
         }
     }
 
+    @Sentence("Terms: all else is asked, and changes nothing: no answer depends on what was asked of a GRID of another ORDER before")
+    void answersAfterOtherAnswers() {
+        Map<String, GridCall> calls = gridCalls();
+        calls.keySet().removeIf(name -> name.matches("put|isotope|conjugate|turn|stir|fill|mate"));
+        String[] larger = {"01234/12340/23401/34012/40123", "0123/1032/2301/3..0"};
+        String smaller = "012/120/201";
+        for (Map.Entry<String, GridCall> call : calls.entrySet()) {
+            for (String other : larger) {
+                String afterNone = answer(smaller, other, call.getValue(), null);
+                String otherAfterNone = answer(other, smaller, call.getValue(), null);
+                for (Map.Entry<String, GridCall> before : calls.entrySet()) {
+                    String name = call.getKey() + " behind " + before.getKey();
+                    due(name, afterNone, () -> answer(smaller, other, call.getValue(), before.getValue()));
+                    due(name, otherAfterNone, () -> answer(other, smaller, call.getValue(), before.getValue()));
+                }
+            }
+        }
+    }
+
+    /** What a call answers for the grid 1, after another one was called for the grid 2. */
+    private String answer(String grid, String other, GridCall call, GridCall before) {
+        fresh();
+        madeOf("012/120/201");
+        madeOf(grid);
+        madeOf(other);
+        type("(xy)=(yz)");
+        if (before != null) {
+            Check.told(() -> before.on(g, 2));
+        }
+        return Check.told(() -> call.on(g, 1));
+    }
+
     @Sentence("GRIDS: a call of two GRIDS may be told the same number twice")
     void theSameGridTwice() {
         for (int n : ORDERS) {
